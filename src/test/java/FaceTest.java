@@ -97,14 +97,17 @@ public final class FaceTest {
         while (m.find()) {
             check("of the library: " + m.group(), List.of("arraycopy", "abs", "min", "max", "bitCount").contains(m.group(1)));
         }
-        int start = 0;
-        String[] lines = text.split("\n");
+        methodLengths(text.split("\n"));
+    }
+
+    /** A method begins at a line that ends with ") {", and ends at a } that stands as far in. */
+    static void methodLengths(String[] lines) {
         for (int k = 0; k < lines.length; k++) {
-            if (lines[k].matches(" {4,8}\\w.*\\) \\{")) {
-                start = k;
+            Matcher head = Pattern.compile("( {4}| {8})[a-z].*\\) \\{").matcher(lines[k]);
+            boolean method = head.matches() && !lines[k].trim().matches("(if|for|while|switch)\\b.*");
+            for (int end = k; method && !lines[end].equals(head.group(1) + "}"); end++) {
+                check("a long method at line " + (k + 1), end - k < 60);
             }
-            check("a long method ends at line " + k, !lines[k].matches(" {4,8}\\}") || k - start <= 60 || start == 0
-                || lines[k].equals("    }"));
         }
     }
 

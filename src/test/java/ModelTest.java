@@ -1011,7 +1011,25 @@ public final class ModelTest {
             drawCall(draw.nextInt(2) == 0 ? often[draw.nextInt(often.length)] : draw.nextInt(48));
         }
         lookAtAll();
+        if (seed % 3 == 0) {
+            layAnother();
+        }
+    }
+
+    /** Another town in the same object: nothing of the earlier one may be left. */
+    static void layAnother() {
         due("wipe()", it.wipe(), model.wipe());
+        // Short, so that a run stays about as long as an object is used for.
+        String text = drawText();
+        writeAll(text.substring(0, text.indexOf(';', Math.min(40, text.length() - 1)) + 1));
+        due("lay()", it.lay(), model.lay());
+        for (int k = 0; k < 30; k++) {
+            drawCall(draw.nextInt(48));
+        }
+        for (int x = 0; x < 26; x++) {
+            due("quarrel(" + x + ",0)", it.quarrel(x, 0), model.quarrel(x, 0));
+            due("alphabet(" + x + ",2)", it.alphabet(x, 2), model.alphabet(x, 2));
+        }
     }
 
     /** Only texts: faults at every place. */

@@ -144,6 +144,15 @@ public final class PromisesTest {
         dueFault("n,1,1;n,1,1;n,1,1;n,1,1;n,1,1;n,1,1;n,1,1;n,1,1;", NONE);
         dueFault("n,1,1;n,1,1;n,1,1;n,1,1;n,1,1;n,1,1;n,1,1;n,1,1;n,1,1;", 48);
         dueFault("g100;n,10,0;", 0);
+        ByInitials x = new ByInitials();
+        writeAll(x, "n,1,1;qab;");
+        due("4: NONE", x.fault(), NONE);
+        x.wipe();
+        writeAll(x, "n,1,1");
+        due("4: what was wiped is not read", x.fault(), 0);
+        due("4: the town stays", x.count(0), 4);
+        x.write(';');
+        due("4: NONE now", x.fault(), NONE);
     }
 
     static void promise5Lay() {
@@ -181,6 +190,24 @@ public final class PromisesTest {
         writeAll(x, "nc,1,1;");
         due("5: longer", x.lay(), 3);
         due("5: what it had not had", x.person(2, 3), NONE);
+        ByInitials y = town("na,1,9;nb,2,2;g5;w1;oz;vz;qab;c4;");
+        y.wipe();
+        writeAll(y, "nc,3,3;qde;qde;g9");
+        due("5: a FAULT", y.lay(), NO);
+        due("5: the town stays", y.quarrel(0, 1), 1);
+        due("5: the town stays", y.quarrel(3, 4), 0);
+        y.wipe();
+        writeAll(y, "nc,3,3;");
+        due("5: one", y.lay(), 1);
+        int[] plain = {1, 20, 3, 1};
+        for (int what = 0; what < 4; what++) {
+            due("5: as without, count(" + what + ")", y.count(what), plain[what]);
+        }
+        due("5: no QUARREL of earlier TEXTS", y.quarrel(0, 1), 0);
+        due("5: no QUARREL of earlier TEXTS", y.quarrel(3, 4), 0);
+        due("5: THE ALPHABET as usual", y.alphabet(25, 0), 25);
+        due("5: VOWELS as usual", y.alphabet(25, 2), 0);
+        due("5: VOWELS as usual", y.alphabet(20, 2), 1);
     }
 
     static void promise6Person() {
@@ -424,6 +451,9 @@ public final class PromisesTest {
         due("17: i 3", x.repay(3, 0, 1), BAD);
         due("17: j -1", x.repay(0, -1, 1), BAD);
         due("17: undone can be", x.count(7), 6);
+        ByInitials y = town("na,0,99;nb,0,0;");
+        y.lend(0, 1, 99);
+        due("17: n 99", y.repay(0, 1, 99), 0);
     }
 
     static void promise18Swap() {
@@ -500,6 +530,13 @@ public final class PromisesTest {
         due("20: three stay", x.alphabet(1, 0), 2);
         due("20: three stay", x.alphabet(4, 0), 1);
         due("20: the others do not", x.alphabet(5, 0), 5);
+        for (int k = 0; k < 30; k++) {
+            x.lend(0, 1, 1);
+        }
+        for (int k = 7; k >= 0; k--) {
+            due("20: undo", x.undo(), k);
+            due("20: the latest first", x.owed(0, 1), 22 + k);
+        }
     }
 
     // ---- names
@@ -602,6 +639,11 @@ public final class PromisesTest {
         ByInitials e = town("n,0,0;n,0,0;n,0,0;n,0,0;n,0,0;n,0,0;n,0,0;n,0,0;");
         due("24: four", e.match(-1), 4);
         due("24: four", e.match(6), 7);
+        ByInitials f = town("nb,0,0;na,0,0;nz,0,0;nc,0,0;nd,0,0;ne,0,0;w1;");
+        int[] whom = {1, 0, NONE, 4, 3, NONE};
+        for (int i = 0; i < 6; i++) {
+            due("24: whom in six " + i, f.match(i), whom[i]);
+        }
     }
 
     static void promise25Wide() {
@@ -613,6 +655,7 @@ public final class PromisesTest {
         due("25: n 0", x.wide(0), BAD);
         due("25: n 5", x.wide(5), BAD);
         due("25: low", x.wide(LOW), BAD);
+        due("25: four", town("na,0,0;nc,0,0;nf,0,0;nj,0,0;no,0,0;nu,0,0;ny,0,0;n,0,0;").wide(4), 4);
         ByInitials y = town("na,0,0;nz,0,0;");
         due("25: as wide as can be", y.wide(1), 25);
         ByInitials z = town("na,0,0;nz,0,0;qaz;");
@@ -669,6 +712,23 @@ public final class PromisesTest {
             e.lend(i, i + 1, 1);
         }
         due("28: the longest that can be", e.chain(), 7);
+        for (int i = 0; i < 7; i++) {
+            e.repay(i, i + 1, 1);
+        }
+        due("28: nobody owes any more", e.chain(), 0);
+        ByInitials up = town("nd,0,9;nc,0,9;nb,0,9;na,0,9;");
+        up.lend(3, 2, 1);
+        up.lend(2, 1, 1);
+        up.lend(1, 0, 1);
+        due("28: by falling numbers", up.chain(), 3);
+        ByInitials two = town("na,0,9;nb,0,9;");
+        two.lend(0, 1, 1);
+        due("28: two", two.chain(), 1);
+        ByInitials first = town("nb,0,9;na,0,9;");
+        first.lend(1, 0, 1);
+        due("28: PERSON 0 owes", first.chain(), 1);
+        first.repay(1, 0, 1);
+        due("28: he has repaid", first.chain(), 0);
     }
 
     static void promise29Payments() {
@@ -723,6 +783,20 @@ public final class PromisesTest {
         due("30: NAMELESS never", n.seats(-1), 0);
         due("30: NAMELESS never", n.seats(2), 2);
         due("30: NAMELESS never", n.seats(-2), 2);
+        ByInitials again = town("na,0,1;na,0,1;nb,0,1;nb,0,1;qaa;");
+        due("30: two a", again.seats(-1), 0);
+        due("30: two a", again.seats(-2), 2);
+        spellAll(again, "b");
+        again.rename(1);
+        due("30: RENAMED", again.seats(-2), 6);
+        again.undo();
+        due("30: undone", again.seats(-2), 2);
+        ByInitials few = town("na,0,0;na,0,0;na,0,0;nb,0,0;nb,0,0;qaa;");
+        due("30: one at least", few.seats(-1), 1);
+        due("30: one at least", few.seats(-2), 12);
+        due("30: one at least", few.seats(1), 1);
+        due("30: one at least", few.seats(2), 3);
+        due("30: one at least", few.seats(3), 2);
     }
 
     static void promise31BestSwap() {
@@ -744,6 +818,15 @@ public final class PromisesTest {
         ByInitials v = town("nq,9,0;nb,4,0;na,5,0;g9;oqba;");
         due("31: the lower LETTER first", v.bestSwap(0), 16);
         due("31: how many", v.bestSwap(1), 2);
+        ByInitials beside = town("na,9,0;nb,3,0;nc,1,0;g9;");
+        due("31: now", beside.count(10), 1);
+        due("31: to the end", beside.bestSwap(0), 2);
+        due("31: to the end", beside.bestSwap(1), 2);
+        ByInitials one = town("nb,9,0;nc,3,0;nc,3,0;g6;");
+        due("31: LETTERS beside each other", one.bestSwap(0), 26 + 2);
+        due("31: only LETTERS of PERSONS", town("nb,9,0;nbc,3,0;nbd,3,0;g9;").bestSwap(0), NONE);
+        due("31: only first LETTERS", town("nbc,9,0;nbd,3,0;nbe,3,0;g9;").bestSwap(0), NONE);
+        due("31: not a, nobody's", town("nz,3,0;ny,9,0;g9;").bestSwap(0), NONE);
     }
 
     static void promise32Enter() {
@@ -834,6 +917,12 @@ public final class PromisesTest {
         due("36: z 10000", x.year(10000, 0), BAD);
         due("36: what 2", x.year(0, 2), BAD);
         due("36: what -1", x.year(0, -1), BAD);
+        ByInitials five = town("nbb,9,0;nba,5,0;nbc,4,0;g9;");
+        int firsts = 0;
+        for (int z = 0; z < 200; z++) {
+            firsts += five.year(z, 0);
+        }
+        due("36: full in 200 YEARS", firsts, fullInYears());
         ByInitials one = town("nzb,0,0;n,0,0;");
         int office = 0;
         for (int z = 0; z < 400; z++) {
@@ -841,6 +930,28 @@ public final class PromisesTest {
             office = "aeiou".indexOf((char) ('a' + x0 * x0 % 65521 % 26)) >= 0 ? 2 : 1;
             due("36: office by " + z, one.year(z, 1), office);
         }
+    }
+
+    /** bb, ba and bc, who want 9, 5 and 4 of 9, by first LETTERS of 200 YEARS. */
+    static int fullInYears() {
+        String[] rest = {"b", "a", "c"};
+        int[] wants = {9, 5, 4};
+        int sum = 0;
+        for (int z = 0; z < 200; z++) {
+            String[] names = new String[3];
+            for (int i = 0; i < 3; i++) {
+                long x = 7919L * z + 6151L * i + 1;
+                names[i] = (char) ('a' + x * x % 65521 % 26) + rest[i];
+            }
+            for (int i = 0; i < 3; i++) {
+                int left = 9;
+                for (int j = 0; j < 3; j++) {
+                    left -= names[j].compareTo(names[i]) < 0 ? wants[j] : 0;
+                }
+                sum += left >= wants[i] ? 1 : 0;
+            }
+        }
+        return sum;
     }
 
     static void promise37Keep() {
