@@ -1,3 +1,4 @@
+import java.lang.reflect.Array;
 import java.lang.reflect.Constructor;
 import java.lang.reflect.Field;
 import java.lang.reflect.InvocationTargetException;
@@ -7,13 +8,15 @@ import java.nio.file.Files;
 import java.nio.file.Path;
 import java.util.ArrayList;
 import java.util.Arrays;
+import java.util.IdentityHashMap;
 import java.util.List;
+import java.util.Map;
 import java.util.Random;
 import java.util.TreeSet;
 import java.util.regex.Matcher;
 import java.util.regex.Pattern;
 
-/** The public face, rules of the language that can be told by a search, and that no call throws. */
+/** The public face, rules of the language that can be told by a search, no call throws, what is made. */
 public final class FaceTest {
     static final String FACE = "alphabet/2 back/0 bestSwap/1 chain/0 change/2 close/0 count/1 enter/2 fault/0 fits/0 "
         + "keep/0 lay/0 lend/3 letter/2 match/1 may/2 net/1 newYear/0 owed/2 payments/0 person/2 price/1 quarrel/2 "
@@ -136,11 +139,51 @@ public final class FaceTest {
         }
     }
 
+    /** Objects and arrays that hang together with this one; what they hold is added to held[0]. */
+    static void walk(Object x, Map<Object, Boolean> seen, long[] held) throws Exception {
+        if (x == null || x instanceof String || seen.put(x, true) != null) {
+            return;
+        }
+        if (x.getClass().isArray()) {
+            held[0] += Array.getLength(x);
+            for (int k = 0; x instanceof Object[] && k < Array.getLength(x); k++) {
+                walk(Array.get(x, k), seen, held);
+            }
+            return;
+        }
+        for (Field f : x.getClass().getDeclaredFields()) {
+            if (!Modifier.isStatic(f.getModifiers())) {
+                held[0]++;
+                f.setAccessible(true);
+                if (!f.getType().isPrimitive()) {
+                    walk(f.get(x), seen, held);
+                }
+            }
+        }
+    }
+
+    /** As many objects as one has calls must find room together, and no call may make more. */
+    static void room() throws Exception {
+        Map<Object, Boolean> seen = new IdentityHashMap<>();
+        long[] held = {0};
+        walk(new ByInitials(), seen, held);
+        check("objects: " + seen.size(), seen.size() * 512L < 600000);
+        check("fields and elements: " + held[0], held[0] * 512 < 7300000);
+        String text = Files.readString(Path.of("src/main/java/ByInitials.java"));
+        int made = 0;
+        for (String row : text.replaceAll("(?s)/\\*.*?\\*/", "").replaceAll("//[^\n]*", "").split("\n")) {
+            boolean field = row.matches("( {4}private| {8})\\s?final \\S+ \\w+ = new .*;");
+            made += Pattern.compile("\\bnew\\b").matcher(row).find() && !field ? 1 : 0;
+        }
+        check("rows with new that are no fields, but for the two of Memory: " + made, made == 2);
+    }
+
     public static void main(String[] args) throws Exception {
         face();
         names();
         source();
         noThrow();
+        room();
         System.out.println(wrong == 0 ? "the face is as told" : wrong + " faults");
         if (wrong != 0) {
             System.exit(1);
